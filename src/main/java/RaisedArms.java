@@ -1053,19 +1053,31 @@ public final class RaisedArms {
                 return;
             }
             Evening trial = tried[depth];
-            Evening further = tried[depth + 1];
-            int matter = trial.order[trial.puts];
-            int worthHere = hall.worthTo(person, matter);
+            int hope = worth + hopeFor(trial, person, many - depth);
+            if (!canBeBetter(hope, sum)) {
+                return;
+            }
+            int worthHere = hall.worthTo(person, trial.order[trial.puts]);
             // Who is neither FOR it nor AGAINST holds nothing, whatever he is told.
             int most = worthHere == 0 ? 0 : trial.left[person];
-            int hope = worth + hopeFor(trial, person, many - depth);
+            if (depth == many - 1 && carriedWith(depth, person, most) == carriedWith(depth, person, 0)) {
+                // Seconds FOR never hinder, seconds AGAINST never help: if all change nothing, fewer do not either.
+                most = 0;
+            }
             for (int seconds = 0; seconds <= most && canBeBetter(hope, sum + seconds); seconds++) {
-                further.copyFrom(trial);
-                further.told[place(person, matter)] = seconds;
                 triedSeconds[depth] = seconds;
-                int carried = vote.run(further);
+                int carried = carriedWith(depth, person, seconds);
                 seekBestFrom(depth + 1, person, many, worth + carried * worthHere, sum + seconds);
             }
+        }
+
+        /** Puts the next MATTER of the evening tried so far, one holding so many seconds of it. */
+        private int carriedWith(int depth, int person, int seconds) {
+            Evening trial = tried[depth];
+            Evening further = tried[depth + 1];
+            further.copyFrom(trial);
+            further.told[place(person, trial.order[trial.puts])] = seconds;
+            return vote.run(further);
         }
 
         /** More than this no seconds can bring of the next MATTERS. */
