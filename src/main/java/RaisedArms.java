@@ -340,7 +340,7 @@ public final class RaisedArms {
 
     /** A KIND, and how one of it behaves: the kinds are over one another as these classes are. */
     private abstract static class Voter {
-        /** How long one of the kind would hold, were all the seconds of his arm still there. */
+        /** How long one of the kind would hold, if that much were LEFT. */
         abstract int wish(int hold, int worth, int left, int told);
 
         boolean lowersWhenSettled() {
@@ -361,28 +361,24 @@ public final class RaisedArms {
     }
 
     private static class Plain extends Voter {
-        @Override
         int wish(int hold, int worth, int left, int told) {
             return hold * Math.abs(worth);
         }
     }
 
     private static final class Watch extends Plain {
-        @Override
         boolean lowersWhenSettled() {
             return true;
         }
     }
 
     private static final class Stout extends Voter {
-        @Override
         int wish(int hold, int worth, int left, int told) {
             return left;
         }
     }
 
     private static final class Told extends Voter {
-        @Override
         int wish(int hold, int worth, int left, int told) {
             return told;
         }
@@ -452,6 +448,10 @@ public final class RaisedArms {
             people.size = 0;
             matters = 0;
             hold = FIRST_HOLD;
+            // Whoever comes now, and whatever MATTER, has WORTH 0 at first.
+            for (int i = 0; i < worth.length; i++) {
+                worth[i] = 0;
+            }
         }
 
         private void addPerson(int kind, int arm, int rest) {
@@ -463,9 +463,6 @@ public final class RaisedArms {
             people.arm[person] = arm;
             people.rest[person] = rest;
             people.counts[person] = 1;
-            for (int matter = 0; matter < MOST_MATTERS; matter++) {
-                worth[place(person, matter)] = 0;
-            }
             people.size++;
         }
 
@@ -474,9 +471,6 @@ public final class RaisedArms {
                 return;
             }
             need[matters] = needed;
-            for (int person = 0; person < MOST_PEOPLE; person++) {
-                worth[place(person, matters)] = 0;
-            }
             matters++;
         }
 
@@ -512,6 +506,7 @@ public final class RaisedArms {
     /** THE TEXT, and what its LINES say as far as it was read. */
     private static final class Text {
         private static final int BLANK = 32, SEMICOLON = 59, MOST_NUMBERS = 3, MOST_DIGITS = 2;
+        private static final int LETTER = 0, DIGIT = 1, OTHER = 2;
 
         private final int[] bytes = new int[MOST_BYTES];
         int length;
@@ -606,25 +601,21 @@ public final class RaisedArms {
                 start++;
             }
             end = start;
-            if (isLetter(start)) {
-                while (isLetter(end)) {
-                    end++;
-                }
-            } else if (isDigit(start)) {
-                while (isDigit(end)) {
-                    end++;
-                }
-            } else if (start < length) {
+            if (start == length) {
+                return;
+            }
+            int sort = sortOf(bytes[start]);
+            end++;
+            while (end < length && sort != OTHER && sortOf(bytes[end]) == sort) {
                 end++;
             }
         }
 
-        private boolean isLetter(int i) {
-            return i < length && bytes[i] >= 'a' && bytes[i] <= 'z';
-        }
-
-        private boolean isDigit(int i) {
-            return i < length && bytes[i] >= '0' && bytes[i] <= '9';
+        private static int sortOf(int sign) {
+            if (sign >= 'a' && sign <= 'z') {
+                return LETTER;
+            }
+            return sign >= '0' && sign <= '9' ? DIGIT : OTHER;
         }
 
         private int wordAtHand() {
@@ -650,7 +641,7 @@ public final class RaisedArms {
 
         /** The number at hand; NONE, which is below all bounds: it is no number, or has too many digits. */
         private int numberAtHand() {
-            if (!isDigit(start) || end - start > MOST_DIGITS) {
+            if (start == length || sortOf(bytes[start]) != DIGIT || end - start > MOST_DIGITS) {
                 return NONE;
             }
             int number = 0;
@@ -883,7 +874,7 @@ public final class RaisedArms {
                 if (isUp[person]) {
                     boolean lowers = settledAhead != NONE && voterOf(people.kind[person]).lowersWhenSettled();
                     isUp[person] = held[person] < wants[person] && !lowers;
-                    isSome |= isUp[person];
+                    isSome = isSome || isUp[person];
                 }
             }
             return isSome;
@@ -933,6 +924,7 @@ public final class RaisedArms {
         private final int[] triedCounts = new int[MOST_PEOPLE];
         final int[] fairCounts = new int[MOST_PEOPLE];
         int fairSpread;
+        private int fairLeast;
         /** Whether the search at hand has found anything yet. */
         private boolean isFound;
 
@@ -950,10 +942,10 @@ public final class RaisedArms {
         }
 
         int carriedOf(Evening now) {
-            return carriedTill(startFrom(now));
+            return carriedToEnd(startFrom(now));
         }
 
-        private int carriedTill(Evening trial) {
+        private int carriedToEnd(Evening trial) {
             int set = 0;
             for (int i = trial.puts; i < trial.matters; i++) {
                 set |= vote.run(trial) << trial.order[i];
@@ -974,7 +966,7 @@ public final class RaisedArms {
                 trial.people.rest[person] = 0;
                 trial.people.arm[person] = h;
             }
-            return carriedTill(trial);
+            return carriedToEnd(trial);
         }
 
         int turningCounts(Evening now, int person, int matter) {
@@ -1041,8 +1033,6 @@ public final class RaisedArms {
         void seekBest(Evening now, int person, int many) {
             startFrom(now).people.kind[person] = TOLD;
             isFound = false;
-            bestWorth = 0;
-            bestSum = 0;
             seekBestFrom(0, person, many, 0, 0);
         }
 
@@ -1105,10 +1095,10 @@ public final class RaisedArms {
         /**
          * The least of COUNTS times ARM is one of each one's nine: for each of these it is enough to look
          * at the row of fewest COUNTS that reach it, as no row does better, or comes first, with that least.
+         * Such a row has nowhere fewer COUNTS if it has more to reach: of several, the first reaches the least.
          */
         void seekFair(People people) {
             isFound = false;
-            fairSpread = 0;
             for (int person = 0; person < people.size; person++) {
                 for (int counts = 1; counts <= MOST_COUNTS; counts++) {
                     tryLeast(people, counts * people.arm[person]);
@@ -1127,9 +1117,10 @@ public final class RaisedArms {
                 greatest = Math.max(greatest, counts * people.arm[person]);
             }
             int spread = greatest - least;
-            if (!isFound || spread < fairSpread || spread == fairSpread && isFirstRow(people.size)) {
+            if (!isFound || spread < fairSpread || spread == fairSpread && least < fairLeast) {
                 isFound = true;
                 fairSpread = spread;
+                fairLeast = least;
                 System.arraycopy(triedCounts, 0, fairCounts, 0, MOST_PEOPLE);
             }
         }
@@ -1141,16 +1132,6 @@ public final class RaisedArms {
                 }
             }
             return NONE;
-        }
-
-        /** Whether the row that is tried comes ahead of the one that was found. */
-        private boolean isFirstRow(int size) {
-            for (int person = 0; person < size; person++) {
-                if (triedCounts[person] != fairCounts[person]) {
-                    return triedCounts[person] < fairCounts[person];
-                }
-            }
-            return false;
         }
     }
 }

@@ -27,6 +27,12 @@ public final class ModelTest {
         for (int run = 0; run < runs; run++) {
             new ModelTest(run).play();
         }
+        for (int run = 0; run < runs; run++) {
+            new ModelTest(run).fairs();
+        }
+        for (int run = 0; run < runs / 20; run++) {
+            new ModelTest(run).longBests();
+        }
         C.end("ModelTest");
     }
 
@@ -40,6 +46,32 @@ public final class ModelTest {
             for (int i = 0; i < many && calls < 480; i++) {
                 any();
             }
+        }
+    }
+
+    /** FAIR for a few people: the rows of all six are too many for the model to go through each time. */
+    private void fairs() {
+        int many = 1 + upTo(run % 50 == 0 ? 5 : 3);
+        StringBuilder s = new StringBuilder("hall");
+        for (int i = 0; i < many; i++) {
+            s.append(";plain ").append(upTo(30)).append(" 0");
+        }
+        text(s.toString());
+        for (int person = -1; person < many; person++) {
+            call(22, person, 0, 0, 0);
+        }
+    }
+
+    /** BEST of three MATTERS by long arms, among others who watch. */
+    private void longBests() {
+        text("watch 30 " + upTo(9) + ";watch " + (10 + upTo(20)) + " " + upTo(9) + ";watch 30 " + upTo(9) + ";told 30 9;matter "
+                + (1 + upTo(8)) + ";matter 5;matter " + (1 + upTo(8)) + ";hold " + (1 + upTo(4)));
+        text(worthText());
+        text(worthText());
+        call(7, 3, upTo(2), upTo(30), 0);
+        int person = upTo(3);
+        for (int i = -1; i < 3; i++) {
+            call(18, person, 3, i, 0);
         }
     }
 
