@@ -340,7 +340,7 @@ public final class RaisedArms {
 
     /** A KIND, and how one of it behaves: the kinds are over one another as these classes are. */
     private abstract static class Voter {
-        /** How long one of the kind would hold, if that much were LEFT. */
+        /** How long one of the kind would hold of a MATTER of some WORTH (without sign), if that much were LEFT. */
         abstract int wish(int hold, int worth, int left, int told);
 
         boolean lowersWhenSettled() {
@@ -362,7 +362,7 @@ public final class RaisedArms {
 
     private static class Plain extends Voter {
         int wish(int hold, int worth, int left, int told) {
-            return hold * Math.abs(worth);
+            return hold * worth;
         }
     }
 
@@ -813,7 +813,26 @@ public final class RaisedArms {
             }
             int left = evening.left[person];
             Voter voter = voterOf(evening.people.kind[person]);
-            return Math.min(left, voter.wish(hall.hold, worth, left, evening.told[place]));
+            return Math.min(left, voter.wish(hall.hold, Math.abs(worth), left, evening.told[place]));
+        }
+
+        /**
+         * Whether the MATTER that comes next would be CARRIED: as if all held what they WANT, for WATCH ones
+         * lower their arms only when that can change nothing any more. Cheaper than putting it.
+         */
+        boolean isCarriedNext(Evening evening) {
+            int next = evening.order[evening.puts];
+            int sumFor = 0;
+            int sumAgainst = 0;
+            for (int person = 0; person < evening.people.size; person++) {
+                int sum = evening.people.counts[person] * wanted(evening, person, next);
+                if (hall.worthTo(person, next) > 0) {
+                    sumFor += sum;
+                } else {
+                    sumAgainst += sum;
+                }
+            }
+            return isCarried(hall.need[next], sumFor, sumAgainst);
         }
 
         /** Puts the MATTER that comes next, if there is one: 1 CARRIED, 0. */
@@ -1038,10 +1057,6 @@ public final class RaisedArms {
 
         /** Tries the fewest seconds of each MATTER first: of equally good rows the first found stays. */
         private void seekBestFrom(int depth, int person, int many, int worth, int sum) {
-            if (depth >= many || depth >= MOST_FORESEEN) {
-                noteIfBetter(worth, sum);
-                return;
-            }
             Evening trial = tried[depth];
             int hope = worth + hopeFor(trial, person, many - depth);
             if (!canBeBetter(hope, sum)) {
@@ -1050,24 +1065,50 @@ public final class RaisedArms {
             int worthHere = hall.worthTo(person, trial.order[trial.puts]);
             // Who is neither FOR it nor AGAINST holds nothing, whatever he is told.
             int most = worthHere == 0 ? 0 : trial.left[person];
-            if (depth == many - 1 && carriedWith(depth, person, most) == carriedWith(depth, person, 0)) {
-                // Seconds FOR never hinder, seconds AGAINST never help: if all change nothing, fewer do not either.
-                most = 0;
+            if (depth == many - 1 || depth == MOST_FORESEEN - 1) {
+                tryLast(depth, person, most, worth, sum);
+                return;
             }
             for (int seconds = 0; seconds <= most && canBeBetter(hope, sum + seconds); seconds++) {
-                triedSeconds[depth] = seconds;
-                int carried = carriedWith(depth, person, seconds);
+                int carried = putWith(depth, person, seconds);
                 seekBestFrom(depth + 1, person, many, worth + carried * worthHere, sum + seconds);
             }
         }
 
-        /** Puts the next MATTER of the evening tried so far, one holding so many seconds of it. */
-        private int carriedWith(int depth, int person, int seconds) {
+        /** The last MATTER: no seconds of it, or the fewest by which it comes otherwise, if there are such. */
+        private void tryLast(int depth, int person, int most, int worth, int sum) {
+            int worthHere = hall.worthTo(person, tried[depth].order[tried[depth].puts]);
+            boolean isCarriedWithout = isCarriedWith(depth, person, 0);
+            noteIfBetter(isCarriedWithout ? worth + worthHere : worth, sum);
+            // Seconds FOR never hinder, seconds AGAINST never help: if all change nothing, fewer do not either.
+            if (isCarriedWith(depth, person, most) == isCarriedWithout) {
+                return;
+            }
+            int seconds = 1;
+            while (seconds < most && isCarriedWith(depth, person, seconds) == isCarriedWithout) {
+                seconds++;
+            }
+            triedSeconds[depth] = seconds;
+            noteIfBetter(isCarriedWithout ? worth : worth + worthHere, sum + seconds);
+        }
+
+        /** Whether the next MATTER of the evening tried so far would be CARRIED, one holding so many seconds of it. */
+        private boolean isCarriedWith(int depth, int person, int seconds) {
+            tellNext(depth, person, seconds);
+            return vote.isCarriedNext(tried[depth]);
+        }
+
+        /** Puts it, one holding so many seconds of it: 1 CARRIED, 0. */
+        private int putWith(int depth, int person, int seconds) {
+            tellNext(depth, person, seconds);
+            tried[depth + 1].copyFrom(tried[depth]);
+            return vote.run(tried[depth + 1]);
+        }
+
+        private void tellNext(int depth, int person, int seconds) {
             Evening trial = tried[depth];
-            Evening further = tried[depth + 1];
-            further.copyFrom(trial);
-            further.told[place(person, trial.order[trial.puts])] = seconds;
-            return vote.run(further);
+            trial.told[place(person, trial.order[trial.puts])] = seconds;
+            triedSeconds[depth] = seconds;
         }
 
         /** More than this no seconds can bring of the next MATTERS. */
