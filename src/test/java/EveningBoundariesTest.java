@@ -380,6 +380,11 @@ public final class EveningBoundariesTest {
         // What is LEFT now, less by what was held: 5 of 5 were held ahead of 6, none is LEFT.
         RaisedArms y = Checks.hall("plain 6 0;plain 5 0;matter 5;for 0 0 9;against 1 0 9");
         C.due("nothing LEFT of AGAINST: 6 to 5 ahead of 7", y.settles(), 7);
+        // FOR counts 3 a second: ahead of 2 it is 3 to 1, and 9 could be; ahead of 4 9 to 9; ahead of 5 12 to 9.
+        RaisedArms v = Checks.hall("watch 9 0;plain 9 0;matter 5;for 0 0 9;against 1 0 9;counts 0 3");
+        C.due("all that is LEFT of AGAINST: ahead of 5", v.settles(), 5);
+        v.vote();
+        C.due("held 4", v.held(0, 0), 4);
         // AGAINST counts 3 a second: ahead of 4 there are 9 of it, and 9 is the most FOR; 10 are one above.
         RaisedArms z = Checks.hall("plain 9 0;plain 3 0;matter 5;for 0 0 9;against 1 0 9;counts 1 3");
         C.due("9 to 9 at most", z.settles(), 4);
@@ -429,6 +434,9 @@ public final class EveningBoundariesTest {
         }
         x.vote();
         C.due("the result stays", x.result(1, 1), 8);
+        for (int what = 0; what < 4; what++) {
+            C.due("no arm was up: result(0, " + what + ")", x.result(0, what), 0);
+        }
     }
 
     // Promise 14
@@ -523,5 +531,12 @@ public final class EveningBoundariesTest {
         C.due("the other is as it was", x.back(1), 1);
         C.due("the first is as it was kept last", x.back(0), 2);
         C.due("a result of it", x.result(0, 0), 4);
+        x.back(1);
+        x.tell(0, 0, 7);
+        x.vote();
+        C.due("another result", x.result(0, 0), 7);
+        x.back(0);
+        C.due("the result that was kept", x.result(0, 0), 4);
+        C.due("what was held then", x.held(0, 0), 4);
     }
 }

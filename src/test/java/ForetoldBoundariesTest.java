@@ -402,6 +402,12 @@ public final class ForetoldBoundariesTest {
         dueFair(1, new int[] {29, 30}, 1, 1);
         // 7 and 10: 21 to 20.
         dueFair(1, new int[] {7, 10}, 3, 2);
+        dueFair(1, new int[] {10, 7}, 2, 3);
+        RaisedArms x = Checks.hall("plain 5 0;plain 5 0");
+        C.due("ahead of another text", x.fair(NONE), 0);
+        Checks.write(x, "hall;plain 0 0;plain 30 0");
+        x.hall();
+        C.due("behind it, nothing stays of what was fair", x.fair(NONE), 30);
     }
 
     private static void dueFair(int much, int[] arms, int... counts) {

@@ -290,6 +290,7 @@ public final class TextBoundariesTest {
         fault("the byte behind 9", "hold 1:", 6);
         fault("a: a row of letters", "halla", 0);
         fault("z: a row of letters", "zhall", 0);
+        fault("z behind: a row of letters", "hallz", 0);
         fault("0: a row of digits", "hold 100", 5);
         fault("9: a row of digits", "hold 199", 5);
         fault("A capital", "HALL", 0);
