@@ -1114,8 +1114,9 @@ public final class RaisedArms {
         /** More than this no seconds can bring of the next MATTERS. */
         private int hopeFor(Evening trial, int person, int many) {
             int hope = 0;
-            for (int i = 0; i < many; i++) {
-                hope += Math.max(0, hall.worthTo(person, trial.order[trial.puts + i]));
+            int end = Math.min(trial.puts + many, trial.matters);
+            for (int i = trial.puts; i < end; i++) {
+                hope += Math.max(0, hall.worthTo(person, trial.order[i]));
             }
             return hope;
         }

@@ -167,6 +167,13 @@ public final class ForetoldBoundariesTest {
     private static void bestAtItsWorths() {
         dueBest(allCarried(), 0, 3, 127, 1, 1, 1);
         dueBest(allCarried(), 1, 3, 73, 0, 0, 0);
+        RaisedArms late = allCarried();
+        late.vote();
+        late.vote();
+        dueBest(late, 0, 3, 127, 1, 1, 1);
+        late.vote();
+        late.vote();
+        dueBest(late, 0, 3, 109, 1);
         RaisedArms neither = Checks.hall("told 9 0;stout 9 9;matter 5;matter 5;matter 5;for 1 0 1;for 1 1 1;for 1 2 1");
         neither.tell(0, 0, 9);
         dueBest(neither, 0, 3, 100, 0, 0, 0);

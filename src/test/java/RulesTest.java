@@ -4,7 +4,9 @@ import java.lang.reflect.Method;
 import java.lang.reflect.Modifier;
 import java.nio.file.Files;
 import java.nio.file.Path;
+import java.util.Map;
 import java.util.Set;
+import java.util.TreeMap;
 import java.util.TreeSet;
 import java.util.regex.Matcher;
 import java.util.regex.Pattern;
@@ -106,6 +108,7 @@ public final class RulesTest {
             }
         }
         methodLengths(text);
+        callDepths(code);
     }
 
     /** A method begins at a line that is indented by 4 or 8 and ends with ") {". */
@@ -121,6 +124,45 @@ public final class RulesTest {
                 C.isTrue("at most sixty lines: " + lines[i].trim(), last - i < 60);
             }
         }
+    }
+
+    /** Calls that are no recursion go at most eight deep, the library's among them; methods are told apart by their names alone. */
+    private static void callDepths(String code) {
+        Map<String, Set<String>> calls = new TreeMap<>();
+        Set<String> open = new TreeSet<>();
+        Pattern head = Pattern.compile("(?: {4}| {8})(?:[\\w\\[\\]]+ )*(\\w+)\\([^;]*\\) \\{");
+        Pattern call = Pattern.compile("(?<!new )\\b(\\w+)\\(");
+        for (String line : code.split("\n")) {
+            Matcher begins = head.matcher(line);
+            if (begins.matches()) {
+                open = calls.computeIfAbsent(begins.group(1), name -> new TreeSet<>());
+                continue;
+            }
+            Matcher called = call.matcher(line);
+            while (called.find()) {
+                open.add(called.group(1));
+            }
+        }
+        for (Set<String> names : calls.values()) {
+            names.removeAll(Set.of("if", "for", "while", "switch"));
+        }
+        for (Method method : RaisedArms.class.getDeclaredMethods()) {
+            int depth = depth(method.getName(), calls, new TreeSet<>());
+            C.isTrue(method.getName() + " calls at most eight deep: " + depth, depth <= 8);
+        }
+        C.isTrue("the depths are seen: " + calls.keySet(), depth("best", calls, new TreeSet<>()) > 5);
+    }
+
+    private static int depth(String name, Map<String, Set<String>> calls, Set<String> path) {
+        int deepest = 0;
+        path.add(name);
+        for (String called : calls.getOrDefault(name, Set.of())) {
+            if (!path.contains(called)) {
+                deepest = Math.max(deepest, depth(called, calls, path));
+            }
+        }
+        path.remove(name);
+        return deepest + 1;
     }
 
     /** No call throws, whatever its numbers are, in a hall of nobody and in one that is full. */
@@ -154,7 +196,7 @@ public final class RulesTest {
         x.keep(a);
         x.back(b);
         x.gain(a);
-        x.best(a, b > 2 ? 4 : b, c);
+        x.best(a, b, c);
         x.put(a, b);
         x.turn(a, b);
         x.bought(a);

@@ -278,6 +278,8 @@ public final class TextBoundariesTest {
         C.due("a sixth behind hall is none", Checks.fault(full, "hall;matter 1"), NONE);
         C.due("six behind hall", Checks.fault(full, "hall;" + SIX), NONE);
         C.due("a seventh behind hall", Checks.fault(full, "hall;" + SIX + ";plain 1 1"), SIX.length() + 6);
+        C.due("a seventh ahead of hall", Checks.fault(full, "plain 1 1;hall"), 0);
+        C.due("a sixth ahead of hall", Checks.fault(full, "hold 1;matter 1;hall"), 7);
         C.due("MATTERS are no people", Checks.fault(Checks.hall(SIX), FIVE), NONE);
         C.due("people are no MATTERS", Checks.fault(Checks.hall(FIVE), SIX), NONE);
     }
