@@ -30,6 +30,7 @@ public final class ForetoldBoundariesTest {
         hourRefused();
         hourAtItsBounds();
         hourOfAllInOrder();
+        fullHall();
         nothingChanges();
         C.end("ForetoldBoundariesTest");
     }
@@ -474,6 +475,29 @@ public final class ForetoldBoundariesTest {
         x.vote();
         C.due("all were put", x.hour(50), 4);
         C.due("what is LEFT now does not matter", x.person(0, 4), 0);
+    }
+
+    /** Six people and five MATTERS, as many as there may be: the last ones are like any other. */
+    private static void fullHall() {
+        RaisedArms x = Checks.hall("plain 30 0;plain 30 0;plain 30 0;plain 30 0;plain 30 0;plain 30 0;matter 5;matter 5;matter 5;matter 5;matter 5",
+                "for 0 4 3;against 1 4 3;for 2 4 2;against 3 4 2;against 4 4 1;for 5 4 2");
+        // FOR 6, 4, 4 seconds are held, AGAINST 6, 4, 2
+        C.due("the last MATTER is carried, 14 to 12", x.carries(), 16);
+        C.due("gain of the last one", x.gain(5), 102);
+        C.due("the last MATTER behind four that nobody wants", x.put(16, 0), 0);
+        C.due("it stays the last", x.put(16, 4), 4);
+        C.due("turn of the last one, of the last MATTER", x.turn(5, 4), 1);
+        C.due("bought of the last MATTER", x.bought(4), 0);
+        C.due("six arms alike", x.fair(NONE), 0);
+        C.due("the last one's COUNTS", x.fair(5), 1);
+        C.due("6 to 6, if two seconds each", x.hour(2), 0);
+        C.due("9 to 8, if three", x.hour(3), 16);
+        x.next(4);
+        C.due("best of the last one: carried", x.best(5, 1, NONE), 102);
+        C.due("10 are for it without him, 12 against: 3 seconds", x.best(5, 1, 0), 3);
+        C.due("best of one against it: not carried", x.best(4, 3, NONE), 100);
+        C.due("10 are against it without him, 14 for: 4 seconds", x.best(4, 3, 0), 4);
+        C.due("and none of a MATTER of no WORTH", x.best(4, 3, 2), 0);
     }
 
     // FORETOLD from now (nothing changes).
